@@ -235,6 +235,11 @@ public final class TraceJudge {
         return Arrays.copyOf(row, 2 * row.length);
     }
 
+    /** What a row tells of a part, 0 where there is none. */
+    private static int partOf(int[] row, int part) {
+        return part == NONE ? 0 : row[part];
+    }
+
     private static boolean isName(int n) {
         return n >= 0 && n <= MAX_NAME;
     }
@@ -288,8 +293,8 @@ public final class TraceJudge {
         }
 
         private int append(int bucket, int c, int l, int r) {
-            int itsSymbols = 1 + (l == NONE ? 0 : symbols[l]) + (r == NONE ? 0 : symbols[r]);
-            int itsHeight = 1 + Math.max(l == NONE ? 0 : height[l], r == NONE ? 0 : height[r]);
+            int itsSymbols = 1 + partOf(symbols, l) + partOf(symbols, r);
+            int itsHeight = 1 + Math.max(partOf(height, l), partOf(height, r));
             if (itsSymbols > MAX_TYPE_SYMBOLS || itsHeight > MAX_TYPE_HEIGHT || count >= MAX_TYPES) {
                 return REFUSED;
             }
@@ -354,7 +359,9 @@ public final class TraceJudge {
         }
 
         void unmark() {
-            Arrays.fill(image, 0, count, NONE);
+            for (int at = 0; at < count; at++) {
+                image[at] = NONE;
+            }
         }
 
         void mark(int t) {
@@ -610,8 +617,8 @@ public final class TraceJudge {
         }
 
         private boolean addTerm(int c, int t, int l, int r) {
-            int itsSymbols = 1 + (l == NONE ? 0 : symbols[l]) + (r == NONE ? 0 : symbols[r]);
-            int itsHeight = 1 + Math.max(l == NONE ? 0 : height[l], r == NONE ? 0 : height[r]);
+            int itsSymbols = 1 + partOf(symbols, l) + partOf(symbols, r);
+            int itsHeight = 1 + Math.max(partOf(height, l), partOf(height, r));
             if (t < 0 || termCount >= MAX_ENTRY_TERMS
                     || itsSymbols > MAX_TERM_SYMBOLS || itsHeight > MAX_TERM_HEIGHT) {
                 return false;
@@ -767,36 +774,19 @@ public final class TraceJudge {
             }
         }
 
-        /** A copy with an abstraction outside of it binding a free variable. */
-        void copyBinding(int from, int to, int c, int t) {
+        /**
+         * A copy that trades a free variable and what an abstraction just outside binds: that for
+         * the variable (binding), or the variable for that.
+         */
+        void copyTrading(int from, int to, boolean binding, int c, int t) {
             int open = 0;
             int binders = 0;
             for (int at = from; at < to && !bad; at++) {
                 int here = code[at];
-                if (here == c && type[at] == t) {
-                    write(4 * binders + BOUND, t);
-                } else {
-                    write(here, type[at]);
-                }
-                if (here == APPLICATION) {
-                    path[open] = binders;
-                    open++;
-                } else if (here == ABSTRACTION) {
-                    binders++;
-                } else if (open > 0) {
-                    open--;
-                    binders = path[open];
-                }
-            }
-        }
-
-        /** A copy of an abstraction's body with a free variable for what it binds. */
-        void copyFreeing(int from, int to, int c, int t) {
-            int open = 0;
-            int binders = 0;
-            for (int at = from; at < to && !bad; at++) {
-                int here = code[at];
-                if (here == 4 * binders + BOUND) {
+                int outer = 4 * binders + BOUND;
+                if (binding && here == c && type[at] == t) {
+                    write(outer, t);
+                } else if (!binding && here == outer) {
                     write(c, t);
                 } else {
                     write(here, type[at]);
@@ -1119,9 +1109,9 @@ public final class TraceJudge {
             sequents.join(a, NONE);
             rows.writeEquals(made);
             rows.write(ABSTRACTION, made);
-            rows.copyBinding(p.left, p.right, c, t);
+            rows.copyTrading(p.left, p.right, true, c, t);
             rows.write(ABSTRACTION, made);
-            rows.copyBinding(p.right, p.end, c, t);
+            rows.copyTrading(p.right, p.end, true, c, t);
             return sequents.add();
         }
 
@@ -1141,7 +1131,7 @@ public final class TraceJudge {
                 return false;
             }
             // In what was just written, the body stands behind two symbols and before the last.
-            rows.copyFreeing(from + 2, rows.top - 1, entries.code[x], entries.type[x]);
+            rows.copyTrading(from + 2, rows.top - 1, false, entries.code[x], entries.type[x]);
             return sequents.add();
         }
 
@@ -1411,8 +1401,8 @@ public final class TraceJudge {
         }
 
         /**
-         * Writes the formula that begins there. Its parts begin behind it, so that the row's length
-         * is a bound of the depth; only T is written from far behind, and it is made of no T.
+         * Writes the formula that begins there. All that it is made of begins behind it, so that
+         * the row's length is a bound of the depth.
          */
         void write(int at, int binders) {
             if (at >= formula.length) {

@@ -11,13 +11,13 @@ public final class RandomRunsTest {
     private final Reference plain = new Reference();
     private final TraceJudge judge = new TraceJudge();
     private final List<Integer> entry = new ArrayList<>();
-    /** A run likes big terms, or many types, or small ones. */
+    /** A run likes big terms, or types put in, or hypotheses, or nothing of these. */
     private final int liking;
     private int accepted = 0;
 
     private RandomRunsTest(long seed) {
         random = new Random(seed);
-        liking = random.nextInt(3);
+        liking = (int) (seed % 4);
     }
 
     public static void main(String[] args) {
@@ -68,6 +68,9 @@ public final class RandomRunsTest {
     }
 
     private void turn() {
+        if (plain.types.isEmpty()) {
+            begin();
+        }
         int what = below(100);
         if (what < 2) {
             cut();
@@ -269,6 +272,23 @@ public final class RandomRunsTest {
             entry.clear();
             makeTypePutting();
         }
+        if (liking == 2 && below(4) == 0) {
+            entry.clear();
+            makeHypothesis();
+        }
+    }
+
+    /** A new variable, that as hypothesis, and it joined to another sequent's: three entries at once. */
+    private void makeHypothesis() {
+        int truths = plain.types.indexOf(Reference.TRUTHS);
+        int last = plain.sequents.size();
+        int most = sequentNumber();
+        for (int a = Math.max(0, last - 20); a < last; a++) {
+            if (plain.sequents.get(a).hypotheses.size() > plain.sequents.get(most).hypotheses.size()) {
+                most = a;
+            }
+        }
+        put(2, below(90), truths, 15, plain.terms.size(), 17, last, most);
     }
 
     private int freeNumber() {
