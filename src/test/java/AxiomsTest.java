@@ -1,4 +1,5 @@
-import java.util.Random;
+import java.util.ArrayList;
+import java.util.List;
 
 /** Promise 3, step 22: the axioms, and no others. */
 public final class AxiomsTest {
@@ -17,7 +18,7 @@ public final class AxiomsTest {
         extension(s);
         selection(s);
         infinity(s);
-        asThePlainReferenceSays(s);
+        asThePlainReferenceSays();
         Checks.end();
     }
 
@@ -64,15 +65,28 @@ public final class AxiomsTest {
         s.typeAt("x", 2, 32, 1);
     }
 
-    private static void asThePlainReferenceSays(Scribe s) {
+    /** Each symbol and its type, asked of new objects that have few calls each. */
+    private static void asThePlainReferenceSays() {
         Reference plain = new Reference();
         for (int k = 0; k < 3; k++) {
             plain.say(22);
             plain.say(k);
         }
         Checks.same("the reference", plain.judge(), 3);
-        for (int a = 0; a < 3; a++) {
-            Compare.sequent(s.judge, a, plain.sequents.get(a), new Random(a));
+        for (int k = 0; k < 3; k++) {
+            List<Reference.Term> due = plain.sequents.get(k).conclusion.prefix();
+            for (int at = 0; at < due.size(); at++) {
+                Run r = new Run("axiom " + k);
+                int a = r.step(22, k);
+                r.symbolIs("as in the reference", a, -1, at, Reference.symbolOf(due.get(at)));
+                List<Integer> heads = new ArrayList<>();
+                due.get(at).type.write(heads);
+                for (int place = 0; place < heads.size(); place++) {
+                    r.typeSymbolIs("as in the reference", a, -1, at, place, heads.get(place));
+                }
+                r.noTypeSymbol("no more in its type", a, -1, at, heads.size());
+                r.noSymbol("no more in it", a, -1, due.size());
+            }
         }
     }
 

@@ -5,7 +5,6 @@ public final class CutTest {
         cutAtTheEnd();
         wrongNumbers();
         definitionsStay();
-        whatHasGoneCountsNoMore();
         whatWasSaidStays();
         Checks.end();
     }
@@ -75,19 +74,6 @@ public final class CutTest {
         s.conclusion("constant 2", 4, -1, -1, 2, 10, 10);
         s.fails("a definition that will not do", 20, 0);
         Checks.same("does not hold either", Compare.cut(s.judge, 4), 0);
-    }
-
-    private static void whatHasGoneCountsNoMore() {
-        Scribe s = new Scribe();
-        for (int round = 0; round < 6; round++) {
-            s.beginTruths();
-            int big = s.termOf(1997);
-            for (int i = 0; i < 5; i++) {
-                s.step(15, big);
-            }
-            s.fails("20000 symbols would be passed", 15, big);
-            s.cutAll();
-        }
     }
 
     private static void whatWasSaidStays() {

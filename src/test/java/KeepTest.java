@@ -6,7 +6,6 @@ public final class KeepTest {
         keepOfTheSameNumber();
         exceptions();
         exceptionsInTheirOrder();
-        typesOfWhatIsKeptCount();
         entriesBehindIt();
         Checks.end();
     }
@@ -89,22 +88,6 @@ public final class KeepTest {
         Checks.same("hypotheses, n too high", Compare.keep(s.judge, 0, 9), 2);
         Checks.same("hypotheses, a below n", Compare.keep(s.judge, 0, 1), 2);
         Checks.same("hypotheses, n too low", Compare.keep(s.judge, 0, -1), 2);
-    }
-
-    /** 8000 different types: those that were there at first, those of x = x, and type variables. */
-    private static void typesOfWhatIsKeptCount() {
-        Scribe s = new Scribe();
-        s.does("x = x, of 'z to 'y", 1, 0, 90000001, 0, 90000000, 1, 2, 0, 1, 2, 0, 2, 0, 5, 10, 0);
-        Checks.same("keep 0, 0", Compare.keep(s.judge, 0, 0), 0);
-        // 5 at first; then 'z, 'y, 'z to 'y, that to truths, and equality's.
-        for (int n = 1; n <= 7990; n++) {
-            s.say(0, n);
-        }
-        Checks.same("types up to 8000", s.judge.judge(), 0);
-        Checks.same("all did", s.judge.fault(), -1);
-        s.fails("8001", 0, 7991);
-        s.does("one that is there", 0, 0, 7990);
-        s.does("one of the kept sequent's", 0, 0, 90000001);
     }
 
     private static void entriesBehindIt() {

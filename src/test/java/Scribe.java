@@ -1,22 +1,8 @@
-import java.util.HashMap;
-import java.util.Map;
-
 /** Says entries to a TraceJudge of its own and checks what comes of them; keeps count of the numbers given. */
 final class Scribe {
-    /** Symbols, as the document tells them. */
-    static final int APP = -1;
-    static final int ABS = -2;
-    static final int EQUALS = 2;
-    static final int CHOICE = 6;
-
     final TraceJudge judge = new TraceJudge();
     private int types = 0;
     private int terms = 0;
-    private final Map<Integer, Integer> termsBySymbols = new HashMap<>();
-
-    static int bound(int i) {
-        return 4 * i;
-    }
 
     static int free(int n) {
         return 4 * n + 1;
@@ -76,52 +62,6 @@ final class Scribe {
     int equality(int a, int truths) {
         int halfway = function(a, truths);
         return term(3, 0, function(a, halfway));
-    }
-
-    /** All types and terms have gone, so numbers begin anew. */
-    void cutAll() {
-        Checks.same("cut 0", Compare.cut(judge, 0), 0);
-        Checks.same("size behind cut 0", judge.size(), 0);
-        types = 0;
-        terms = 0;
-        termsBySymbols.clear();
-    }
-
-    /**
-     * A term of truths with so many symbols, an odd number, and as low as can be. Terms 0, 1, 2 have
-     * to be free variables of truths, of truths to truths, and of truths to (truths to truths).
-     */
-    int termOf(int symbols) {
-        if (symbols == 1) {
-            return 0;
-        }
-        Integer known = termsBySymbols.get(symbols);
-        if (known != null) {
-            return known;
-        }
-        int made;
-        if (symbols == 3) {
-            made = term(4, 1, 0);
-        } else {
-            int half = (symbols - 3) / 2;
-            int first = half % 2 == 1 ? half : half - 1;
-            int one = termOf(first);
-            int two = termOf(symbols - 3 - first);
-            int both = term(4, 2, one);
-            made = term(4, both, two);
-        }
-        termsBySymbols.put(symbols, made);
-        return made;
-    }
-
-    /** Types truths, truths to truths, truths to (truths to truths), and a free variable 0 of each. */
-    void beginTruths() {
-        int truths = type(1, 0);
-        int one = function(truths, truths);
-        int two = function(truths, one);
-        term(2, 0, truths);
-        term(2, 0, one);
-        term(2, 0, two);
     }
 
     /** A row, i = -1 the conclusion, has just these symbols. */

@@ -263,24 +263,6 @@ public final class StepsTest {
         s.fails("type variable 100000000", 19, e, 1, 100000000, truths);
         s.fails("no sequent", 19, 99, 1, 0, truths);
         s.fails("k is -1", 19, e, -1, 0, truths);
-        many(s, e, 250, true);
-        many(s, e, 251, false);
-    }
-
-    private static void many(Scribe s, int e, int k, boolean does) {
-        int[] entry = new int[3 + 2 * k];
-        entry[0] = 19;
-        entry[1] = e;
-        entry[2] = k;
-        for (int i = 0; i < k; i++) {
-            entry[3 + 2 * i] = k - 1 - i;
-        }
-        if (does) {
-            int a = s.step(entry);
-            s.typeAt("truths for all", a, 3, 2, 0, 0);
-        } else {
-            s.fails("251 of them", entry);
-        }
     }
 
     private static void typesPutInMakeAlike() {
