@@ -12,6 +12,7 @@ public final class EntryEdgesTest {
         freeVariableNumbers();
         constantNumbers();
         constantTypes();
+        constantsOfHighTypes();
         boundVariableNumbers();
         typesAreThereAlready();
         termsAreThereAlready();
@@ -20,10 +21,13 @@ public final class EntryEdgesTest {
         numbersOfWhatWouldNotDoAreFree();
         applicationsOfFunctions();
         abstractionsBindOneType();
+        abstractionsOfApplications();
         closedTermsAlone();
         boundFarOut();
         kindsOfEntries();
         entriesAreWhole();
+        lastEntryIsNotWhole();
+        lastEntryIsWhole();
         Checks.end();
     }
 
@@ -137,6 +141,29 @@ public final class EntryEdgesTest {
         r.fails("and of type variables", 3, 2, r.function(a, a));
     }
 
+    /** Own types of height 22, the highest that step 20 can make. */
+    private static void constantsOfHighTypes() {
+        Run r = new Run("constants of high types");
+        int truths = r.truths();
+        int to = truths;
+        int from = truths;
+        for (int h = 2; h <= 21; h++) {
+            to = r.function(truths, to);
+            from = r.function(from, truths);
+        }
+        int i = r.identity(truths);
+        int holds = r.equal(r.function(truths, truths), i, i);
+        r.step(20, r.lambda(to, holds));
+        r.step(20, r.lambda(from, holds));
+        r.constant(2, r.function(to, truths));
+        r.constant(3, r.function(from, truths));
+        r.fails("the one of the other's type", 3, 2, r.function(from, truths));
+        r.fails("the other of the one's", 3, 3, r.function(to, truths));
+        r.constant(1, r.function(r.function(to, truths), to));
+        r.constant(1, r.function(r.function(from, truths), from));
+        r.does("choice of high types");
+    }
+
     private static void boundVariableNumbers() {
         Run r = new Run("bound variables are 0 .. 119");
         int a = r.things();
@@ -167,7 +194,8 @@ public final class EntryEdgesTest {
         r.say(entry);
         r.judges("as it is", entry[0] < 10 ? 0 : 1);
         r.faultIs("as it is", -1);
-        r.sizeIs("as it is", steps + (entry[0] < 10 ? 0 : entry[0] == 21 ? 2 : 1));
+        int twice = before[before.length - 2] == 21 ? 1 : 0;
+        r.sizeIs("as it is", steps + twice + (entry[0] < 10 ? 0 : entry[0] == 21 ? 2 : 1));
     }
 
     /** Of entries without constructors that steps made; step 19 has no types put in here. */
@@ -186,6 +214,11 @@ public final class EntryEdgesTest {
         int[] two = {1, 1, 1, 0};
         named("what a function is from", two, 2, 2, 1, 2, 1, 0);
         named("what a function is to", two, 3, 2, 1, 2, 0, 1);
+        int[] takesOne = {1, 0, 0, 0, 6, 0, 1, 5, 1, 0, 10, 1, 21, 0};
+        named("what a constructor that takes one takes", takesOne, 2, 2, 1, 3, 1);
+        int[] takesTwo = {0, 0, 0, 1, 6, 1, 0, 5, 1, 0, 5, 0, 1, 10, 2, 21, 0};
+        named("the first that a constructor of two takes", takesTwo, 2, 2, 1, 3, 1, 0);
+        named("the second that a constructor of two takes", takesTwo, 3, 2, 1, 3, 0, 1);
         named("a free variable's type", two, 2, 2, 2, 0, 1);
         named("a constant's type", new int[] {1, 0, 1, 2, 0, 0, 1, 2, 0, 1}, 2, 3, 3, 0, 2);
         named("what an abstraction is over", new int[] {1, 1, 1, 0, 2, 0, 0}, 1, 2, 5, 1, 0);
@@ -322,6 +355,23 @@ public final class EntryEdgesTest {
         r.does("all others");
     }
 
+    /** Term 0 is bound, and of another type than what the abstraction binds. */
+    private static void abstractionsOfApplications() {
+        Run r = new Run("abstractions of applications");
+        int truths = r.truths();
+        int other = r.bound(0, r.things());
+        int f = r.free(0, r.function(truths, r.function(truths, truths)));
+        int here = r.bound(0, truths);
+        int once = r.apply(r.apply(f, here), r.truth(1));
+        int twice = r.apply(r.apply(f, once), once);
+        r.conclusionIs("\\p. f p q", r.step(10, r.lambda(truths, once)),
+            -1, -1, 2, -2, -1, -1, 1, 0, 5, -2, -1, -1, 1, 0, 5);
+        r.step(10, r.lambda(truths, twice));
+        r.fails("over things", 5, r.things(), twice);
+        r.step(10, r.lambda(r.things(), other));
+        r.does("and over things what is of things");
+    }
+
     private static void closedTermsAlone() {
         Run r = new Run("terms of steps are closed");
         int truths = r.truths();
@@ -403,6 +453,56 @@ public final class EntryEdgesTest {
             r.say(entry);
             r.judges("whole", entry[0] < 10 ? 0 : 1);
             r.faultIs("whole", -1);
+        }
+    }
+
+    /** Whatever stands before it, and whatever its kind. */
+    private static void lastEntryIsNotWhole() {
+        for (int before = 4; before < 500; before += before < 40 ? 1 : 7) {
+            for (int kind : new int[] {1, 4, 18, 19}) {
+                endsAmiss(before, kind);
+            }
+        }
+        for (int before : new int[] {61, 62, 63, 125, 126, 127, 253, 254, 255}) {
+            endsAmiss(before, 19, 0);
+            endsAmiss(before, 18, 0, 0);
+            endsAmiss(before, 1);
+            endsAmiss(before, 7);
+        }
+    }
+
+    private static void endsAmiss(int before, int... entry) {
+        Run r = new Run("kind " + entry[0] + " behind " + before + " numbers");
+        sayTypes(r, before);
+        r.say(entry);
+        r.judges("it will not do", 0);
+        r.faultIs("it will not do", before);
+    }
+
+    /** Types of so many numbers, 4 or more; an odd number has a term among them. */
+    private static void sayTypes(Run r, int numbers) {
+        int rest = numbers;
+        if (rest % 2 == 1) {
+            r.say(1, 0, 2, 0, 0);
+            rest -= 5;
+        }
+        for (; rest > 0; rest -= 2) {
+            r.say(1, 0);
+        }
+    }
+
+    private static void lastEntryIsWhole() {
+        for (int before = 4; before < 500; before += before < 70 ? 1 : before < 245 ? 5 : 3) {
+            Run two = new Run("an entry of two numbers behind " + before);
+            sayTypes(two, before);
+            two.say(0, 7);
+            two.judges("it will do", 0);
+            two.faultIs("it will do", -1);
+            Run three = new Run("an entry of three numbers behind " + before);
+            sayTypes(three, before);
+            three.say(2, 7, 0);
+            three.judges("it will do", 0);
+            three.faultIs("it will do", -1);
         }
     }
 }

@@ -2,7 +2,7 @@ import java.util.Random;
 
 /**
  * Different types, made by the thousand with few entries: compared with the plain Reference, and the
- * places that are left counted by filling them.
+ * places that are left counted by filling them, which takes far more than 512 calls.
  */
 public final class ManyTypesTest {
     private final Reference plain = new Reference();

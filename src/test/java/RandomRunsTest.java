@@ -2,7 +2,10 @@ import java.util.ArrayList;
 import java.util.List;
 import java.util.Random;
 
-/** Random runs, most of their entries such as will do, compared call by call with the plain Reference. */
+/**
+ * Random runs, most of their entries such as will do, compared call by call with the plain Reference;
+ * they go on beyond 512 calls.
+ */
 public final class RandomRunsTest {
     private static final int RUNS = 400;
     private static final int CALLS = 250;

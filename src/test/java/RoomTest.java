@@ -79,11 +79,13 @@ public final class RoomTest {
     }
 
     private void axioms() {
+        int made = 0;
         while (calls < 505) {
-            judged(22, 2);
-            if (judge.size() >= 20) {
+            made += judged(22, 2);
+            if (made == 20) {
                 judge.cut(0);
                 calls++;
+                made = 0;
             }
         }
     }

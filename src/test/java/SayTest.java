@@ -1,4 +1,7 @@
-/** Promise 2: say takes any number, and refuses one if 20000 wait. */
+/**
+ * Promise 2: say takes any number, and refuses one if 20000 wait. No run of 512 calls gets so far; the
+ * program refuses there all the same.
+ */
 public final class SayTest {
     public static void main(String[] args) {
         takesAnyNumber();
@@ -20,6 +23,7 @@ public final class SayTest {
     /** The last entry would be whole with the number that was refused. */
     private static void refusesOneMoreThan20000() {
         Scribe s = new Scribe();
+        // Each of these is taken; the last of them is number 20000.
         s.say(1, 0);
         for (int i = 0; i < 6665; i++) {
             s.say(2, i, 0);

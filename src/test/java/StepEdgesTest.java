@@ -1,6 +1,8 @@
 /** The document's Terms: what each step asks for, just so and not quite so. */
 public final class StepEdgesTest {
     public static void main(String[] args) {
+        equationsAlone();
+        sameTermsAreOfTheSameTypes();
         step11();
         step12();
         step13();
@@ -14,14 +16,72 @@ public final class StepEdgesTest {
         step19Puts250();
         step19PutsNoMore();
         step20();
+        step20FreeVariables();
+        step20TypeVariables();
         step21();
+        step21FreeVariables();
         step21TypeVariables();
+        step21OfAConstantAlone();
         step22();
         Checks.end();
     }
 
     private static int assumed(Run r, int l, int right) {
         return r.step(15, r.equal(r.truths(), l, right));
+    }
+
+    /** Two terms under a relation are no equation, unless the relation is constant 0. */
+    private static void equationsAlone() {
+        Run r = new Run("steps 11, 12, 13, 16 of equations alone");
+        int truths = r.truths();
+        int p = r.truth(0);
+        int relation = r.function(truths, r.function(truths, truths));
+        int g = r.free(3, relation);
+        r.step(20, r.lambda(truths, r.lambda(truths, r.bound(1, truths))));
+        int c = r.constant(2, relation);
+        int same = r.step(10, p);
+        int i = r.step(10, r.identity(truths));
+        int holds = r.step(15, p);
+        for (int other : new int[] {g, c}) {
+            int a = r.step(15, r.apply(r.apply(other, p), p));
+            r.fails("step 11's first", 11, a, same);
+            r.fails("step 11's second", 11, same, a);
+            r.fails("step 12's second", 12, i, a);
+            r.fails("step 13", 13, r.truth(9), a);
+            r.fails("step 16's first", 16, a, holds);
+        }
+        int ofFunctions = r.free(4, r.function(r.function(truths, truths),
+            r.function(r.function(truths, truths), truths)));
+        int b = r.step(15, r.apply(r.apply(ofFunctions, r.identity(truths)), r.identity(truths)));
+        r.fails("step 12's first", 12, b, same);
+        int e = r.step(15, r.apply(r.apply(r.constant(0, relation), p), p));
+        r.step(11, e, same);
+        r.step(12, i, e);
+        r.step(13, r.truth(9), e);
+        r.step(16, e, holds);
+        r.does("constant 0, as an entry");
+    }
+
+    /** (\x. q) y, x and y of that type: the symbols are the same for each type. */
+    private static int constantly(Run r, int type) {
+        return r.apply(r.lambda(type, r.truth(1)), r.free(0, type));
+    }
+
+    private static void sameTermsAreOfTheSameTypes() {
+        Run r = new Run("terms that differ in a type alone");
+        int a = constantly(r, r.typeVariable(0));
+        int b = constantly(r, r.typeVariable(1));
+        int ofA = r.step(15, a);
+        int ofB = r.step(15, b);
+        r.fails("step 11", 11, r.step(10, a), r.step(10, b));
+        r.fails("step 16", 16, r.step(10, a), ofB);
+        int both = r.step(17, ofA, ofB);
+        r.hypothesesAre("step 17 leaves none out", both, 2);
+        r.hypothesesAre("step 17 joins them to two", r.step(17, both, r.step(10, r.truth(1))), 2);
+        r.hypothesesAre("step 19 makes them alike", r.step(19, both, 1, 1, r.typeVariable(0)), 1);
+        r.hypothesesAre("or changes both", r.step(19, both, 2, 1, r.typeVariable(0), 0, r.typeVariable(1)), 2);
+        r.hypothesesAre("step 18 puts in for one of them", r.step(18, both, r.free(0, r.typeVariable(0)),
+            r.free(5, r.typeVariable(0))), 2);
     }
 
     private static void step11() {
@@ -269,6 +329,37 @@ public final class StepEdgesTest {
         r.hypothesesAre("it has none", e, 0);
     }
 
+    private static void step20FreeVariables() {
+        Run r = new Run("step 20: any free variable, and no other symbol");
+        int truths = r.truths();
+        int property = r.function(truths, truths);
+        for (int n : new int[] {0, 1, 2, 3, 4, 5, 99999999}) {
+            r.fails("free variable " + n, 20, r.truth(n));
+            r.fails("free variable " + n + " inside", 20, r.lambda(truths, r.truth(n)));
+        }
+        int deep = r.lambda(truths, r.lambda(truths, r.lambda(truths, r.bound(2, truths))));
+        r.conclusionIs("what is bound further out", r.step(20, deep), -1, -1, 2, 10, -2, -2, -2, 8);
+        int chosen = r.apply(r.constant(1, r.function(property, truths)), r.identity(truths));
+        r.conclusionIs("choice", r.step(20, chosen), -1, -1, 2, 14, -1, 6, -2, 0);
+        r.conclusionIs("a constant of step 20", r.step(20, r.constant(3, truths)), -1, -1, 2, 18, 14);
+        r.conclusionIs("equality", r.step(20, r.equality(truths)), -1, -1, 2, 22, 2);
+    }
+
+    /** 'a is in the types of symbols, but no symbol is of 'a itself. */
+    private static void step20TypeVariables() {
+        Run r = new Run("step 20: a type variable inside of types");
+        int a = r.typeVariable(0);
+        int toItself = r.function(a, a);
+        r.step(20, r.identity(a));
+        int c = r.constant(2, toItself);
+        r.fails("c = c, c of 'a to 'a", 20, r.equal(toItself, c, c));
+        r.fails("below an abstraction", 20, r.lambda(r.truths(), r.equal(toItself, c, c)));
+        r.typeIs("c, of 'a to 'a", r.step(20, c), 3, 2, -1, -1);
+        int things = r.function(r.things(), r.things());
+        int d = r.constant(2, things);
+        r.typeIs("c = c, c of things to things", r.step(20, r.equal(things, d, d)), 3, 0);
+    }
+
     private static void step21() {
         Run r = new Run("step 21: without hypotheses, P x, no free variable in P");
         int truths = r.truths();
@@ -289,6 +380,16 @@ public final class StepEdgesTest {
         r.typeIs("T takes none", first, 8, 3);
         r.conclusionIs("P r = (FRO (TO r) = r)", second,
             -1, -1, 2, -1, -1, 2, -2, 0, 1, -1, -1, 2, -1, 22, -1, 18, 1, 1);
+    }
+
+    private static void step21FreeVariables() {
+        for (int n : new int[] {0, 1, 2, 3, 4, 5, 99999999}) {
+            Run r = new Run("step 21: free variable " + n);
+            r.fails("in P", 21, r.step(10, r.truth(n)));
+            r.fails("inside of P", 21, r.step(10, r.lambda(r.truths(), r.truth(n))));
+            r.step(21, r.step(10, r.lambda(r.truths(), r.lambda(r.truths(), r.bound(1, r.truths())))));
+            r.does("none in P");
+        }
     }
 
     /** P x, P of truths and constantly i = i, of so many type variables that are not in its type. */
@@ -320,6 +421,27 @@ public final class StepEdgesTest {
         not.fails("three", 21, always(not, 3, 2, 1));
         int again = not.step(21, always(not, 3, 2)) - 1;
         not.typeIs("two", again, 8, 3, -3, -4);
+    }
+
+    /** c = \x. (i = i), and from that: c y. */
+    private static void step21OfAConstantAlone() {
+        Run r = new Run("step 21: P is a constant, T takes type variable 0");
+        int a = r.typeVariable(0);
+        int truths = r.truths();
+        int i = r.identity(truths);
+        int always = r.lambda(a, r.equal(r.function(truths, truths), i, i));
+        int y = r.free(6, a);
+        int applied = r.step(12, r.step(20, always), r.step(10, y));
+        int equal = r.step(11, applied, r.step(14, r.apply(always, y)));
+        int c = r.apply(r.constant(2, r.function(a, truths)), y);
+        int holds = r.step(16, r.turned(equal, c), r.step(10, i));
+        r.conclusionIs("c y", holds, -1, 10, 25);
+        int first = r.step(21, holds) - 1;
+        r.typeIs("T of 'a", first, 8, 3, -1);
+        r.conclusionIs("c r = (FRO (TO r) = r)", first + 1, -1, -1, 2, -1, 10, 1, -1, -1, 2, -1, 18, -1, 14, 1, 1);
+        Run wide = new Run("step 21: type variables 0 and 99999999");
+        int both = wide.step(21, always(wide, 99999999, 0)) - 1;
+        wide.typeIs("in rising order", both, 8, 3, -1, -100000000);
     }
 
     private static void step22() {

@@ -9,12 +9,19 @@ public final class TotalEdgesTest {
     /** A term of so many symbols is made of smaller ones, with which sequents are filled up. */
     private static final int BIG = 3999;
 
+    /** Says what is needed, and tells a step. */
+    private interface Attempt {
+        int[] of(Run r);
+    }
+
     public static void main(String[] args) {
         hypothesesOfStep11();
         hypothesesOfOtherSteps();
         hypothesesOfStep17();
         hypothesesThatBecomeAlike();
         symbolsOfSequents();
+        symbolsOfEachStep();
+        symbolsOfEachAxiom();
         symbolsOfHypotheses();
         symbolsOfAlikeHypotheses();
         symbolsOfStep21();
@@ -164,6 +171,56 @@ public final class TotalEdgesTest {
         odd.step(10, odd.truth(0));
         odd.does("20000");
         odd.fails("20002", 15, odd.truth(0));
+    }
+
+    /** The step makes so many symbols: it will do where they are left, and not where one is missing. */
+    private static void edge(String what, int needs, Attempt attempt) {
+        for (int missing = 0; missing <= 1; missing++) {
+            Reference plain = new Reference();
+            Run r = new Run(what + ", " + needs + " symbols where " + missing + " are missing", plain);
+            int[] step = attempt.of(r);
+            r.does("what it needs");
+            fillUp(r, plain.sequentSymbols(), needs - missing);
+            if (missing == 0) {
+                r.step(step);
+                r.does("20000");
+                Checks.same(what, plain.sequentSymbols(), 20000);
+            } else {
+                r.fails("20001", step);
+            }
+        }
+    }
+
+    private static int[] step(int... numbers) {
+        return numbers;
+    }
+
+    private static void symbolsOfEachStep() {
+        edge("step 10", 5, r -> step(10, r.truth(0)));
+        edge("step 11", 5, r -> step(11, r.step(10, r.truth(0)), r.step(10, r.truth(0))));
+        edge("step 12", 11, r -> step(12, r.step(10, r.identity(r.truths())), r.step(10, r.truth(0))));
+        edge("step 13", 7, r -> step(13, r.truth(1), r.step(10, r.truth(0))));
+        edge("step 14", 8, r -> step(14, r.apply(r.identity(r.truths()), r.truth(0))));
+        edge("step 15", 2, r -> step(15, r.truth(0)));
+        edge("step 16", 7, r -> step(16,
+            r.step(15, r.equal(r.truths(), r.truth(0), r.truth(1))), r.step(15, r.truth(0))));
+        edge("step 17", 7, r -> step(17, r.step(15, r.truth(0)), r.step(15, r.truth(1))));
+        edge("step 18", 10, r -> step(18,
+            r.step(15, r.truth(0)), r.truth(0), r.equal(r.truths(), r.truth(1), r.truth(1))));
+        edge("step 19", 2, r -> step(19, r.step(15, r.truth(0)), 0));
+        edge("step 20", 6, r -> step(20, r.identity(r.truths())));
+        edge("step 21", 27, r -> step(21, r.step(10, r.identity(r.truths()))));
+    }
+
+    private static void symbolsOfEachAxiom() {
+        for (int k = 0; k < 3; k++) {
+            int axiom = k;
+            Reference plain = new Reference();
+            plain.say(22);
+            plain.say(k);
+            plain.judge();
+            edge("axiom " + k, plain.sequentSymbols(), r -> step(22, axiom));
+        }
     }
 
     /** Of p = q with two hypotheses: 7 symbols. */
