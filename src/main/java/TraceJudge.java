@@ -1404,7 +1404,7 @@ public final class TraceJudge {
          * Writes the formula that begins there. All that it is made of begins behind it, so that
          * the row's length is a bound of the depth.
          */
-        void write(int at, int binders) {
+        private void write(int at, int binders) {
             if (at >= formula.length) {
                 return;
             }
@@ -1417,7 +1417,7 @@ public final class TraceJudge {
                     write(second, binders);
                     break;
                 case LAMBDA:
-                    writeBinding(first, second, binders);
+                    writeBinding(first, second, typeAt(at), binders);
                     break;
                 case EQUAL:
                     rows.writeEquals(typeAt(first));
@@ -1451,9 +1451,9 @@ public final class TraceJudge {
             }
         }
 
-        /** \v. p. */
-        private void writeBinding(int v, int p, int binders) {
-            rows.write(ABSTRACTION, types.make(FUNCTIONS, typeAt(v), typeAt(p)));
+        /** \v. p, of that type. */
+        private void writeBinding(int v, int p, int type, int binders) {
+            rows.write(ABSTRACTION, type);
             boundAt[formula[v]] = binders;
             write(p, binders + 1);
         }
@@ -1462,7 +1462,7 @@ public final class TraceJudge {
         private void writeAll(int v, int p, int binders) {
             int side = types.make(FUNCTIONS, typeAt(v), TYPE_TRUTHS);
             rows.writeEquals(side);
-            writeBinding(v, p, binders);
+            writeBinding(v, p, side, binders);
             rows.write(ABSTRACTION, side);
             write(formula.length - T_LENGTH, binders + 1);
         }
@@ -1471,9 +1471,9 @@ public final class TraceJudge {
         private void writeExists(int v, int p, int binders) {
             int property = types.make(FUNCTIONS, typeAt(v), TYPE_TRUTHS);
             rows.write(APPLICATION, TYPE_TRUTHS);
-            writeBinding(v, p, binders);
+            writeBinding(v, p, property, binders);
             rows.writeApplied(CHOICE, types.make(FUNCTIONS, property, typeAt(v)));
-            writeBinding(v, p, binders);
+            writeBinding(v, p, property, binders);
         }
 
         /** (\f. f p q) = (\f. f T T). */
